@@ -1,0 +1,294 @@
+import java.util.Random;
+
+/** Runs of up to 512 calls, the same at every start, each answer compared with the model's. */
+public final class RandomRunsTest {
+    private static final int RUNS = 240;
+    private static final int CALLS = 512;
+    private static final String[] NAMES = {
+        "variable", "constant", "apply", "choose", "restrict", "quantify", "product", "compose", "turn",
+        "truth", "same", "count", "least", "depends", "nodes", "heap", "order", "swap", "place", "sift",
+        "image", "reach", "check", "astray"
+    };
+    // How often each call comes, by the kind of run: all alike, great diagrams, systems, changes of the order.
+    private static final int[][] WEIGHTS = {
+        {6, 1, 12, 6, 2, 1, 1, 6, 3, 8, 4, 4, 4, 4, 4, 4, 2, 3, 3, 1, 4, 4, 8, 2},
+        {2, 0, 30, 9, 1, 0, 0, 30, 5, 6, 4, 2, 2, 2, 3, 3, 1, 3, 2, 1, 0, 0, 1, 1},
+        {3, 0, 9, 4, 2, 2, 1, 2, 3, 4, 3, 3, 3, 3, 1, 1, 1, 1, 1, 1, 9, 9, 30, 1},
+        {3, 0, 20, 5, 0, 0, 0, 15, 3, 3, 1, 1, 1, 1, 4, 6, 4, 9, 9, 3, 0, 0, 1, 3},
+    };
+
+    // Operations whose result hangs on both functions.
+    private static final int[] RICH = {6, 9, 6, 9, 1, 2, 4, 7, 8, 11, 13, 14};
+
+    private final Random random;
+    private final SymbolicChecker checker = new SymbolicChecker();
+    private final Model model = new Model();
+    private final int[] weights;
+    private final int[] args = new int[5];
+    private int calls;
+    private final String run;
+
+    private RandomRunsTest(int run) {
+        this.run = "run " + run;
+        random = new Random(20261115L + run);
+        weights = WEIGHTS[run % WEIGHTS.length];
+    }
+
+    public static void main(String[] arguments) {
+        for (int run = 0; run < RUNS; run++) {
+            new RandomRunsTest(run).play();
+        }
+        Expect.end("RandomRunsTest");
+    }
+
+    private void play() {
+        calls = 0;
+        if (isSystem()) {
+            openSystem();
+        } else {
+            openGreat();
+        }
+        while (calls < CALLS) {
+            int kind = pickKind();
+            fillArguments(kind);
+            if (isSystem() && !rarely()) {
+                keepToSystem(kind);
+            }
+            compare(kind);
+        }
+    }
+
+    private boolean isSystem() {
+        return weights == WEIGHTS[2];
+    }
+
+    private void call(String name, int... arguments) {
+        System.arraycopy(arguments, 0, args, 0, arguments.length);
+        compare(java.util.Arrays.asList(NAMES).indexOf(name));
+    }
+
+    /** Fills the registers with functions of many variables. */
+    private void openGreat() {
+        for (int v = 0; v < 8; v++) {
+            call("variable", v, v);
+            call("variable", 15 - v, random.nextInt(8));
+        }
+        int mixes = random.nextInt(120);
+        for (int i = 0; i < mixes; i++) {
+            int r = random.nextInt(16);
+            switch (random.nextInt(4)) {
+                case 0: call("apply", r, RICH[random.nextInt(RICH.length)], r, random.nextInt(16)); break;
+                case 1: call("compose", r, random.nextInt(16), random.nextInt(8), random.nextInt(16)); break;
+                case 2: call("turn", r, r); break;
+                default: call("choose", r, random.nextInt(16), random.nextInt(16), random.nextInt(16)); break;
+            }
+        }
+    }
+
+    /**
+     * Sets in 0 to 11; in 12 to 15 steps: each bit of the next state as a function of the state, then some
+     * states without a step or with several.
+     */
+    private void openSystem() {
+        for (int i = 0; i < 4; i++) {
+            call("variable", i, 2 * i);
+        }
+        for (int t = 12; t < 16; t++) {
+            call("constant", t, 1);
+            for (int i = 0; i < 4; i++) {
+                nextBit(4 + i, i);
+                call("variable", 8, 2 * i + 1);
+                call("apply", 8, 9, 8, 4 + i);
+                call("apply", t, 8, t, 8);
+            }
+            call("apply", 9, random.nextInt(16), 4, 5);
+            call("apply", 9, random.nextInt(16), 9, 6);
+            if (random.nextInt(2) == 0) {
+                call("apply", t, random.nextInt(2) == 0 ? 8 : 14, t, 9);
+            }
+        }
+        for (int r = 4; r < 12; r++) {
+            call("apply", r, RICH[random.nextInt(RICH.length)], random.nextInt(4), 4 + random.nextInt(4));
+        }
+    }
+
+    private void nextBit(int r, int i) {
+        call("apply", r, RICH[random.nextInt(RICH.length)], random.nextInt(4), random.nextInt(4));
+        call("choose", r, random.nextInt(4), r, random.nextInt(4));
+        if (random.nextInt(2) == 0) {
+            call("apply", r, 6, r, i);
+        }
+    }
+
+    /** Sets stay sets and steps stay steps, but for a call here and there. */
+    private void keepToSystem(int kind) {
+        switch (NAMES[kind]) {
+            case "variable": args[0] = args[0] % 8; args[1] = args[1] & 6; break;
+            case "constant": args[0] = 4 + random.nextInt(4); break;
+            case "apply": case "choose":
+                args[0] = 4 + random.nextInt(8);
+                args[2] = random.nextInt(12);
+                args[3] = random.nextInt(12);
+                args[1] = kind == 2 ? RICH[random.nextInt(RICH.length)] : random.nextInt(12);
+                break;
+            case "restrict": case "quantify": case "product": case "compose": case "turn":
+                args[0] = 11;
+                break;
+            case "image": case "reach": case "check":
+                args[0] = random.nextInt(6) == 0 ? 4 + random.nextInt(7) : 11;
+                args[1] = 12 + random.nextInt(4);
+                break;
+            default: break;
+        }
+    }
+
+    private int pickKind() {
+        int sum = 0;
+        for (int weight : weights) {
+            sum += weight;
+        }
+        int left = random.nextInt(sum);
+        int kind = 0;
+        while (left >= weights[kind]) {
+            left -= weights[kind];
+            kind++;
+        }
+        return kind;
+    }
+
+    private boolean rarely() {
+        return random.nextInt(80) == 0;
+    }
+
+    private int upTo(int most) {
+        if (rarely()) {
+            int[] none = {-1, most + 1, Integer.MIN_VALUE, Integer.MAX_VALUE, -most - 2, most + 2};
+            return none[random.nextInt(none.length)];
+        }
+        return random.nextInt(most + 1);
+    }
+
+    private int setRegister() {
+        for (int attempt = 0; attempt < 60 && random.nextInt(40) != 0; attempt++) {
+            int r = random.nextInt(16);
+            if ((model.depends(r) & 0xAA) == 0 && (model.depends(r) != 0 || attempt > 30)) {
+                return r;
+            }
+        }
+        return upTo(15);
+    }
+
+    private void fillArguments(int kind) {
+        for (int i = 0; i < args.length; i++) {
+            args[i] = upTo(15);
+        }
+        switch (NAMES[kind]) {
+            case "variable": args[1] = upTo(7); break;
+            case "apply": args[1] = random.nextInt(3) == 0 ? upTo(15) : RICH[random.nextInt(RICH.length)]; break;
+            case "constant": args[1] = random.nextInt(2); break;
+            case "restrict": args[2] = upTo(7); args[3] = random.nextInt(2); break;
+            case "quantify": args[2] = mask(); args[3] = random.nextInt(2); break;
+            case "product": args[3] = mask(); break;
+            case "compose": args[2] = upTo(7); break;
+            case "truth": args[1] = upTo(255); break;
+            case "order": args[0] = upTo(7); break;
+            case "swap": args[0] = upTo(6); break;
+            case "place": args[0] = upTo(7); args[1] = upTo(7); break;
+            case "sift": args[0] = upTo(7); break;
+            case "image": case "reach": args[2] = setRegister(); break;
+            case "check": args[2] = upTo(7); args[3] = setRegister(); args[4] = setRegister(); break;
+            default: break;
+        }
+    }
+
+    private int mask() {
+        return random.nextInt(3) == 0 ? upTo(255) : upTo(255) & upTo(255);
+    }
+
+    private void compare(int kind) {
+        calls++;
+        String want = answer(kind, true);
+        String got = answer(kind, false);
+        if (!want.equals(got)) {
+            Expect.fail(run + ", call " + calls + ": " + NAMES[kind] + java.util.Arrays.toString(args)
+                + " answered " + got + ", due is " + want);
+        }
+    }
+
+    private String answer(int kind, boolean due) {
+        try {
+            long answer = due ? askModel(NAMES[kind]) : askChecker(NAMES[kind]);
+            return Long.toString(answer);
+        } catch (RuntimeException e) {
+            return e.getClass().getName();
+        }
+    }
+
+    private long askModel(String name) {
+        Model x = model;
+        int a = args[0];
+        int b = args[1];
+        int c = args[2];
+        int d = args[3];
+        switch (name) {
+            case "variable": x.variable(a, b); return 0;
+            case "constant": x.constant(a, b == 1); return 0;
+            case "apply": x.apply(a, b, c, d); return 0;
+            case "choose": x.choose(a, b, c, d); return 0;
+            case "restrict": x.restrict(a, b, c, d == 1); return 0;
+            case "quantify": x.quantify(a, b, c, d == 1); return 0;
+            case "product": x.product(a, b, c, d); return 0;
+            case "compose": x.compose(a, b, c, d); return 0;
+            case "turn": x.turn(a, b); return 0;
+            case "truth": return x.truth(a, b) ? 1 : 0;
+            case "same": return x.same(a, b) ? 1 : 0;
+            case "count": return x.count(a);
+            case "least": return x.least(a);
+            case "depends": return x.depends(a);
+            case "nodes": return x.nodes(a);
+            case "heap": return x.heap();
+            case "order": return x.order(a);
+            case "swap": return x.swap(a);
+            case "place": return x.place(a, b);
+            case "sift": return x.sift(a);
+            case "image": return x.image(a, b, c);
+            case "reach": return x.reach(a, b, c);
+            case "check": return x.check(a, b, c, d, args[4]);
+            default: return 0;
+        }
+    }
+
+    private long askChecker(String name) {
+        SymbolicChecker x = checker;
+        int a = args[0];
+        int b = args[1];
+        int c = args[2];
+        int d = args[3];
+        switch (name) {
+            case "variable": x.variable(a, b); return 0;
+            case "constant": x.constant(a, b == 1); return 0;
+            case "apply": x.apply(a, b, c, d); return 0;
+            case "choose": x.choose(a, b, c, d); return 0;
+            case "restrict": x.restrict(a, b, c, d == 1); return 0;
+            case "quantify": x.quantify(a, b, c, d == 1); return 0;
+            case "product": x.product(a, b, c, d); return 0;
+            case "compose": x.compose(a, b, c, d); return 0;
+            case "turn": x.turn(a, b); return 0;
+            case "truth": return x.truth(a, b) ? 1 : 0;
+            case "same": return x.same(a, b) ? 1 : 0;
+            case "count": return x.count(a);
+            case "least": return x.least(a);
+            case "depends": return x.depends(a);
+            case "nodes": return x.nodes(a);
+            case "heap": return x.heap();
+            case "order": return x.order(a);
+            case "swap": return x.swap(a);
+            case "place": return x.place(a, b);
+            case "sift": return x.sift(a);
+            case "image": return x.image(a, b, c);
+            case "reach": return x.reach(a, b, c);
+            case "check": return x.check(a, b, c, d, args[4]);
+            default: return x.astray();
+        }
+    }
+}
