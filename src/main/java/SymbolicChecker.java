@@ -55,7 +55,8 @@ public final class SymbolicChecker {
         diagrams.keep(r, diagrams.fix(diagrams.root(a), v, on, 0));
     }
 
-    public void quantify(int r, int a, int mask, boolean all) throws IndexOutOfBoundsException, IllegalArgumentException {
+    public void quantify(int r, int a, int mask, boolean all)
+            throws IndexOutOfBoundsException, IllegalArgumentException {
         needRegister(r);
         needRegister(a);
         needBelow(mask, ASSIGNMENTS);
@@ -213,21 +214,23 @@ public final class SymbolicChecker {
         int steps = diagrams.root(t);
         int inP = diagrams.root(p);
         int inQ = diagrams.root(q);
+        int notP = diagrams.negate(inP);
         int z;
         switch (formula) {
             case 0: z = before(steps, inP); break;
-            case 1: z = until(steps, Diagrams.TRUE, inP); break;
-            case 2: z = always(steps, inP); break;
-            case 3: z = until(steps, inP, inQ); break;
-            case 4: z = diagrams.negate(before(steps, diagrams.negate(inP))); break;
-            case 5: z = diagrams.negate(always(steps, diagrams.negate(inP))); break;
-            case 6: z = diagrams.negate(until(steps, Diagrams.TRUE, diagrams.negate(inP))); break;
+            case 1: z = settle(steps, Diagrams.TRUE, inP, inP); break;
+            case 2: z = settle(steps, inP, Diagrams.FALSE, inP); break;
+            case 3: z = settle(steps, inP, inQ, inQ); break;
+            case 4: z = diagrams.negate(before(steps, notP)); break;
+            case 5: z = diagrams.negate(settle(steps, notP, Diagrams.FALSE, notP)); break;
+            case 6: z = diagrams.negate(settle(steps, Diagrams.TRUE, notP, notP)); break;
             default:
-                // AU has two ways to fail: q never comes, or p ends before it.
-                int never = always(steps, diagrams.negate(inQ));
+                // AU fails in two ways: q never comes, or p ends before it.
+                int notQ = diagrams.negate(inQ);
+                int never = settle(steps, notQ, Diagrams.FALSE, notQ);
                 diagrams.hold(Diagrams.HELD_APART, never);
-                int tooSoon = until(steps, diagrams.negate(inQ), diagrams.join(Diagrams.NOR, inP, inQ, 0));
-                z = diagrams.join(Diagrams.NOR, never, tooSoon, 0);
+                int neither = diagrams.join(Diagrams.NOR, inP, inQ, 0);
+                z = diagrams.join(Diagrams.NOR, never, settle(steps, notQ, neither, neither), 0);
                 break;
         }
         diagrams.keep(r, z);
@@ -248,12 +251,12 @@ public final class SymbolicChecker {
         return diagrams.overlap(t, diagrams.mirror(p, 0), BEHIND, 0);
     }
 
-    /** EU: from q outwards, through p. */
-    private int until(int t, int p, int q) {
+    /** A set Z with Z = q or (p and EX Z): the least one if it starts from q, the greatest from p or q. */
+    private int settle(int t, int p, int q, int start) {
         diagrams.hold(Diagrams.HELD_P, p);
         diagrams.hold(Diagrams.HELD_Q, q);
-        int z = q;
-        // Z only grows, and stands still by the pass behind the last state at the latest.
+        int z = start;
+        // Z only grows, or only shrinks, so each pass but the last moves a state that none before has moved.
         for (int pass = 0; pass <= STATES; pass++) {
             int next = diagrams.join(Diagrams.OR, q, diagrams.join(Diagrams.AND, p, before(t, z), 0), 0);
             if (next == z) {
@@ -266,24 +269,7 @@ public final class SymbolicChecker {
         return z;
     }
 
-    /** EG: from p inwards. */
-    private int always(int t, int p) {
-        diagrams.hold(Diagrams.HELD_P, p);
-        int z = p;
-        // Z only shrinks, and stands still by the pass behind the last state at the latest.
-        for (int pass = 0; pass <= STATES; pass++) {
-            int next = diagrams.join(Diagrams.AND, p, before(t, z), 0);
-            if (next == z) {
-                break;
-            }
-            z = next;
-            diagrams.hold(Diagrams.HELD_Z, z);
-            diagrams.collect();
-        }
-        return z;
-    }
-
-    /** How many states the set in a register has: each stands for one assignment a value of the odd variables. */
+    /** How many states the set in a register has: 16 assignments, by the odd variables, stand for one state. */
     private int states(int r) {
         return diagrams.weight(diagrams.root(r), 0) / (ASSIGNMENTS / STATES);
     }
@@ -345,7 +331,7 @@ public final class SymbolicChecker {
         private static final int ROOTS = REGISTERS + 4;
 
         private static final int CAPACITY = 2048;
-        private static final int BUCKETS = 512;
+        private static final int BUCKETS = 256;
         private static final int FIRST = 2;
         private static final int FREE = -1;
         // The two leaves bear a variable of their own, below all others in every order.

@@ -1,3 +1,9 @@
+import java.lang.reflect.InvocationTargetException;
+import java.lang.reflect.Method;
+import java.lang.reflect.Modifier;
+import java.util.Arrays;
+import java.util.HashMap;
+import java.util.Map;
 import java.util.Random;
 
 /** Runs of up to 512 calls, the same at every start, each answer compared with the model's. */
@@ -19,6 +25,9 @@ public final class RandomRunsTest {
 
     // Operations whose result hangs on both functions.
     private static final int[] RICH = {6, 9, 6, 9, 1, 2, 4, 7, 8, 11, 13, 14};
+
+    private static final Map<String, Method> MODEL_METHODS = methodsOf(Model.class);
+    private static final Map<String, Method> CHECKER_METHODS = methodsOf(SymbolicChecker.class);
 
     private final Random random;
     private final SymbolicChecker checker = new SymbolicChecker();
@@ -64,7 +73,7 @@ public final class RandomRunsTest {
 
     private void call(String name, int... arguments) {
         System.arraycopy(arguments, 0, args, 0, arguments.length);
-        compare(java.util.Arrays.asList(NAMES).indexOf(name));
+        compare(Arrays.asList(NAMES).indexOf(name));
     }
 
     /** Fills the registers with functions of many variables. */
@@ -207,88 +216,36 @@ public final class RandomRunsTest {
 
     private void compare(int kind) {
         calls++;
-        String want = answer(kind, true);
-        String got = answer(kind, false);
+        String want = answer(model, MODEL_METHODS.get(NAMES[kind]));
+        String got = answer(checker, CHECKER_METHODS.get(NAMES[kind]));
         if (!want.equals(got)) {
-            Expect.fail(run + ", call " + calls + ": " + NAMES[kind] + java.util.Arrays.toString(args)
+            Expect.fail(run + ", call " + calls + ": " + NAMES[kind] + Arrays.toString(args)
                 + " answered " + got + ", due is " + want);
         }
     }
 
-    private String answer(int kind, boolean due) {
+    private String answer(Object asked, Method method) {
+        Object[] given = new Object[method.getParameterCount()];
+        for (int i = 0; i < given.length; i++) {
+            boolean isNumber = method.getParameterTypes()[i] == int.class;
+            given[i] = isNumber ? (Object) args[i] : (Object) (args[i] == 1);
+        }
         try {
-            long answer = due ? askModel(NAMES[kind]) : askChecker(NAMES[kind]);
-            return Long.toString(answer);
-        } catch (RuntimeException e) {
-            return e.getClass().getName();
+            return String.valueOf(method.invoke(asked, given));
+        } catch (InvocationTargetException e) {
+            return e.getCause().getClass().getName();
+        } catch (IllegalAccessException e) {
+            return e.toString();
         }
     }
 
-    private long askModel(String name) {
-        Model x = model;
-        int a = args[0];
-        int b = args[1];
-        int c = args[2];
-        int d = args[3];
-        switch (name) {
-            case "variable": x.variable(a, b); return 0;
-            case "constant": x.constant(a, b == 1); return 0;
-            case "apply": x.apply(a, b, c, d); return 0;
-            case "choose": x.choose(a, b, c, d); return 0;
-            case "restrict": x.restrict(a, b, c, d == 1); return 0;
-            case "quantify": x.quantify(a, b, c, d == 1); return 0;
-            case "product": x.product(a, b, c, d); return 0;
-            case "compose": x.compose(a, b, c, d); return 0;
-            case "turn": x.turn(a, b); return 0;
-            case "truth": return x.truth(a, b) ? 1 : 0;
-            case "same": return x.same(a, b) ? 1 : 0;
-            case "count": return x.count(a);
-            case "least": return x.least(a);
-            case "depends": return x.depends(a);
-            case "nodes": return x.nodes(a);
-            case "heap": return x.heap();
-            case "order": return x.order(a);
-            case "swap": return x.swap(a);
-            case "place": return x.place(a, b);
-            case "sift": return x.sift(a);
-            case "image": return x.image(a, b, c);
-            case "reach": return x.reach(a, b, c);
-            case "check": return x.check(a, b, c, d, args[4]);
-            default: return 0;
+    private static Map<String, Method> methodsOf(Class<?> type) {
+        Map<String, Method> methods = new HashMap<>();
+        for (Method method : type.getDeclaredMethods()) {
+            if (!Modifier.isPrivate(method.getModifiers())) {
+                methods.put(method.getName(), method);
+            }
         }
-    }
-
-    private long askChecker(String name) {
-        SymbolicChecker x = checker;
-        int a = args[0];
-        int b = args[1];
-        int c = args[2];
-        int d = args[3];
-        switch (name) {
-            case "variable": x.variable(a, b); return 0;
-            case "constant": x.constant(a, b == 1); return 0;
-            case "apply": x.apply(a, b, c, d); return 0;
-            case "choose": x.choose(a, b, c, d); return 0;
-            case "restrict": x.restrict(a, b, c, d == 1); return 0;
-            case "quantify": x.quantify(a, b, c, d == 1); return 0;
-            case "product": x.product(a, b, c, d); return 0;
-            case "compose": x.compose(a, b, c, d); return 0;
-            case "turn": x.turn(a, b); return 0;
-            case "truth": return x.truth(a, b) ? 1 : 0;
-            case "same": return x.same(a, b) ? 1 : 0;
-            case "count": return x.count(a);
-            case "least": return x.least(a);
-            case "depends": return x.depends(a);
-            case "nodes": return x.nodes(a);
-            case "heap": return x.heap();
-            case "order": return x.order(a);
-            case "swap": return x.swap(a);
-            case "place": return x.place(a, b);
-            case "sift": return x.sift(a);
-            case "image": return x.image(a, b, c);
-            case "reach": return x.reach(a, b, c);
-            case "check": return x.check(a, b, c, d, args[4]);
-            default: return x.astray();
-        }
+        return methods;
     }
 }
