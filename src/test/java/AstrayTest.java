@@ -30,6 +30,7 @@ public final class AstrayTest {
         new AstrayTest().bothWaysTheSame();
         new AstrayTest().twice();
         new AstrayTest().underALaterOne();
+        new AstrayTest().underALaterOneByItsLowWay();
         new AstrayTest().noNodeAtAll();
         Expect.end("AstrayTest");
     }
@@ -75,6 +76,14 @@ public final class AstrayTest {
         levelOf[1] = 0;
         // Variable 1 itself, under both and and xor, and its opposite, under xor.
         Expect.due("astray() with two nodes under later ones", checker.astray(), 2);
+    }
+
+    private void underALaterOneByItsLowWay() {
+        checker.apply(2, 14, 0, 1);
+        checker.constant(3, false);
+        levelOf[0] = 1;
+        levelOf[1] = 0;
+        Expect.due("astray() with variable 1 under or alone", checker.astray(), 1);
     }
 
     private void noNodeAtAll() {

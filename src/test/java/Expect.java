@@ -23,6 +23,12 @@ final class Expect {
         }
     }
 
+    static void due(String what, String got, String want) {
+        if (!got.equals(want)) {
+            fail(what + " answered " + got + ", due is " + want);
+        }
+    }
+
     static void due(String what, boolean got, boolean want) {
         if (got != want) {
             fail(what + " answered " + got + ", due is " + want);
@@ -45,6 +51,21 @@ final class Expect {
     static void table(String what, SymbolicChecker x, int r, Predicate want) {
         for (int assignment = 0; assignment < 256; assignment++) {
             due(what + " at " + assignment, x.truth(r, assignment), want.at(assignment));
+        }
+    }
+
+    static void order(String what, SymbolicChecker x, int... want) {
+        for (int level = 0; level < 8; level++) {
+            due(what + ": order(" + level + ")", x.order(level), want[level]);
+        }
+    }
+
+    /** Compares the set of a register with the states that it is to have. */
+    static void states(String what, SymbolicChecker x, int r, int... want) {
+        due(what + ": count", x.count(r), 16L * want.length);
+        due(what + ": odd variables", x.depends(r) & 0xAA, 0);
+        for (int state : want) {
+            due(what + ": state " + state, x.truth(r, Model.spread(state)), true);
         }
     }
 

@@ -304,7 +304,8 @@ final class Model {
         return bestHeap;
     }
 
-    private static int spread(int state) {
+    /** The assignment whose even variables are the bits of a state. */
+    static int spread(int state) {
         return state & 1 | (state & 2) << 1 | (state & 4) << 2 | (state & 8) << 3;
     }
 

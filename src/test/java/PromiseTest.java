@@ -368,17 +368,11 @@ public final class PromiseTest {
         Expect.due("heap() of constants", x.heap(), 0);
     }
 
-    private static void expectOrder(String what, SymbolicChecker x, int... want) {
-        for (int level = 0; level < 8; level++) {
-            Expect.due(what + ": order(" + level + ")", x.order(level), want[level]);
-        }
-    }
-
     private static void order() {
         SymbolicChecker x = filled();
         x.place(0, 7);
         x.swap(2);
-        expectOrder("place(0, 7), swap(2)", x, 1, 2, 4, 3, 5, 6, 7, 0);
+        Expect.order("place(0, 7), swap(2)", x, 1, 2, 4, 3, 5, 6, 7, 0);
         for (int none : NO_VARIABLE) {
             Expect.index("order(" + none + ")", () -> x.order(none));
         }
@@ -390,10 +384,10 @@ public final class PromiseTest {
         // 8 variables, and 3 of register 8's 4 nodes.
         Expect.due("heap() of the variables and register 8", x.heap(), 11);
         Expect.due("swap(1)", x.swap(1), 12);
-        expectOrder("swap(1)", x, 0, 2, 1, 3, 4, 5, 6, 7);
+        Expect.order("swap(1)", x, 0, 2, 1, 3, 4, 5, 6, 7);
         Expect.due("swap(1) back", x.swap(1), 11);
         Expect.due("swap(6)", x.swap(6), 11);
-        expectOrder("swap(6)", x, 0, 1, 2, 3, 4, 5, 7, 6);
+        Expect.order("swap(6)", x, 0, 1, 2, 3, 4, 5, 7, 6);
         Expect.table("no function is changed by a swap", x, 8, PromiseTest::eight);
         for (int none : new int[] {-1, 7, 8, Integer.MIN_VALUE, Integer.MAX_VALUE}) {
             Expect.index("swap(" + none + ")", () -> x.swap(none));
@@ -404,16 +398,16 @@ public final class PromiseTest {
         SymbolicChecker x = filled();
         x.constant(9, false);
         Expect.due("place(2, 1)", x.place(2, 1), 12);
-        expectOrder("place(2, 1)", x, 0, 2, 1, 3, 4, 5, 6, 7);
+        Expect.order("place(2, 1)", x, 0, 2, 1, 3, 4, 5, 6, 7);
         Expect.due("place(1, 1)", x.place(1, 1), 11);
-        expectOrder("place(1, 1)", x, 0, 1, 2, 3, 4, 5, 6, 7);
+        Expect.order("place(1, 1)", x, 0, 1, 2, 3, 4, 5, 6, 7);
         x.place(6, 0);
-        expectOrder("place(6, 0)", x, 6, 0, 1, 2, 3, 4, 5, 7);
+        Expect.order("place(6, 0)", x, 6, 0, 1, 2, 3, 4, 5, 7);
         x.place(0, 7);
-        expectOrder("place(0, 7)", x, 6, 1, 2, 3, 4, 5, 7, 0);
+        Expect.order("place(0, 7)", x, 6, 1, 2, 3, 4, 5, 7, 0);
         int heap = x.heap();
         Expect.due("place where it is", x.place(0, 7), heap);
-        expectOrder("place where it is", x, 6, 1, 2, 3, 4, 5, 7, 0);
+        Expect.order("place where it is", x, 6, 1, 2, 3, 4, 5, 7, 0);
         Expect.table("no function is changed by a place", x, 8, PromiseTest::eight);
         for (int none : NO_VARIABLE) {
             Expect.index("place(" + none + ", 0)", () -> x.place(none, 0));
@@ -427,12 +421,12 @@ public final class PromiseTest {
         x.place(1, 7);
         Expect.due("sift(1)", x.sift(1), 11);
         // Beside 0, before or behind it: 0 and 1 alike, so the lower of the two levels.
-        expectOrder("sift(1)", x, 1, 0, 2, 3, 4, 5, 6, 7);
+        Expect.order("sift(1)", x, 1, 0, 2, 3, 4, 5, 6, 7);
         Expect.due("sift(6) where every level is as good", x.sift(6), 11);
-        expectOrder("sift(6)", x, 6, 1, 0, 2, 3, 4, 5, 7);
+        Expect.order("sift(6)", x, 6, 1, 0, 2, 3, 4, 5, 7);
         SymbolicChecker none = new SymbolicChecker();
         Expect.due("sift(5) of an empty heap", none.sift(5), 0);
-        expectOrder("sift(5) of an empty heap", none, 5, 0, 1, 2, 3, 4, 6, 7);
+        Expect.order("sift(5) of an empty heap", none, 5, 0, 1, 2, 3, 4, 6, 7);
         for (int v : NO_VARIABLE) {
             Expect.index("sift(" + v + ")", () -> x.sift(v));
         }
@@ -462,27 +456,15 @@ public final class PromiseTest {
         return x;
     }
 
-    private static int spread(int state) {
-        return state & 1 | (state & 2) << 1 | (state & 4) << 2 | (state & 8) << 3;
-    }
-
-    private static void expectStates(String what, SymbolicChecker x, int r, int... want) {
-        Expect.due(what + ": count", x.count(r), 16L * want.length);
-        Expect.due(what + ": odd variables", x.depends(r) & 0xAA, 0);
-        for (int state : want) {
-            Expect.due(what + ": state " + state, x.truth(r, spread(state)), true);
-        }
-    }
-
     private static void image() {
         SymbolicChecker x = counter();
         Expect.due("count of the counter's steps", x.count(12), 16);
         Expect.due("image(11, 12, 13)", x.image(11, 12, 13), 1);
-        expectStates("image of state 0", x, 11, 1);
+        Expect.states("image of state 0", x, 11, 1);
         Expect.due("image(11, 12, 11)", x.image(11, 12, 11), 1);
-        expectStates("image of state 1, into itself", x, 11, 2);
+        Expect.states("image of state 1, into itself", x, 11, 2);
         Expect.due("image(11, 12, 14)", x.image(11, 12, 14), 1);
-        expectStates("image of state 15", x, 11, 0);
+        Expect.states("image of state 15", x, 11, 0);
         Expect.due("image(11, 12, 15)", x.image(11, 12, 15), 16);
         Expect.due("image(11, 12, 10) of no state", x.image(11, 12, 10), 0);
         Expect.due("image(11, 15, 13) by every step", x.image(11, 15, 13), 16);
@@ -524,7 +506,7 @@ public final class PromiseTest {
     private static void check() {
         SymbolicChecker x = counter();
         Expect.due("EX of state 0", x.check(11, 12, 0, 13, 13), 1);
-        expectStates("EX of state 0", x, 11, 15);
+        Expect.states("EX of state 0", x, 11, 15);
         Expect.due("EF of state 0", x.check(11, 12, 1, 13, 13), 16);
         Expect.due("EG of the upper half", x.check(11, 12, 2, 3, 3), 0);
         Expect.due("EG of all", x.check(11, 12, 2, 15, 10), 16);
@@ -561,15 +543,15 @@ public final class PromiseTest {
         x.apply(5, AND, 0, 1);
         x.apply(6, 1, 2, 3);
         x.apply(5, AND, 5, 6);
-        expectStates("state 3", x, 5, 3);
+        Expect.states("state 3", x, 5, 3);
         x.turn(6, 5);
         x.apply(6, AND, 5, 6);
         x.apply(12, OR, 12, 6);
         Expect.due("EG of all", x.check(11, 12, 2, 15, 15), 4);
-        expectStates("EG of all", x, 11, 0, 1, 2, 3);
+        Expect.states("EG of all", x, 11, 0, 1, 2, 3);
         Expect.due("EX of all", x.check(11, 12, 0, 15, 15), 15);
         Expect.due("AX of none: the states without a step", x.check(11, 12, 4, 9, 9), 1);
-        expectStates("AX of none", x, 11, 15);
+        Expect.states("AX of none", x, 11, 15);
         Expect.due("AF of none: the states from which every way ends", x.check(11, 12, 5, 9, 9), 12);
         Expect.due("AF of state 15", x.check(11, 12, 5, 14, 14), 12);
         Expect.due("AU of all and state 15", x.check(11, 12, 7, 15, 14), 12);
@@ -613,14 +595,14 @@ public final class PromiseTest {
         Expect.state("check", () -> x.check(12, 13, 7, 13, 12));
         Expect.argument("check", () -> x.check(12, 13, 8, 13, 13));
         Expect.due("heap() behind calls that throw", x.heap(), heap);
-        expectOrder("behind calls that throw", x, 0, 1, 2, 3, 4, 5, 6, 7);
+        Expect.order("behind calls that throw", x, 0, 1, 2, 3, 4, 5, 6, 7);
         Expect.table("the steps behind calls that throw", x, 12, PromiseTest::isCounterStep);
     }
 
     private static boolean isCounterStep(int assignment) {
         for (int state = 0; state < 16; state++) {
-            if ((assignment & 0x55) == spread(state)) {
-                return (assignment & 0xAA) == spread(state + 1 & 15) << 1;
+            if ((assignment & 0x55) == Model.spread(state)) {
+                return (assignment & 0xAA) == Model.spread(state + 1 & 15) << 1;
             }
         }
         return false;

@@ -1,15 +1,8 @@
-import java.lang.reflect.InvocationTargetException;
-import java.lang.reflect.Method;
-import java.lang.reflect.Modifier;
-import java.util.Arrays;
-import java.util.HashMap;
-import java.util.Map;
 import java.util.Random;
 
 /** Runs of up to 512 calls, the same at every start, each answer compared with the model's. */
 public final class RandomRunsTest {
     private static final int RUNS = 240;
-    private static final int CALLS = 512;
     private static final String[] NAMES = {
         "variable", "constant", "apply", "choose", "restrict", "quantify", "product", "compose", "turn",
         "truth", "same", "count", "least", "depends", "nodes", "heap", "order", "swap", "place", "sift",
@@ -26,19 +19,13 @@ public final class RandomRunsTest {
     // Operations whose result hangs on both functions.
     private static final int[] RICH = {6, 9, 6, 9, 1, 2, 4, 7, 8, 11, 13, 14};
 
-    private static final Map<String, Method> MODEL_METHODS = methodsOf(Model.class);
-    private static final Map<String, Method> CHECKER_METHODS = methodsOf(SymbolicChecker.class);
-
     private final Random random;
-    private final SymbolicChecker checker = new SymbolicChecker();
-    private final Model model = new Model();
+    private final Twin twin;
     private final int[] weights;
     private final int[] args = new int[5];
-    private int calls;
-    private final String run;
 
     private RandomRunsTest(int run) {
-        this.run = "run " + run;
+        twin = new Twin("run " + run);
         random = new Random(20261115L + run);
         weights = WEIGHTS[run % WEIGHTS.length];
     }
@@ -51,19 +38,18 @@ public final class RandomRunsTest {
     }
 
     private void play() {
-        calls = 0;
         if (isSystem()) {
             openSystem();
         } else {
             openGreat();
         }
-        while (calls < CALLS) {
+        while (twin.calls() < Twin.CALLS) {
             int kind = pickKind();
             fillArguments(kind);
             if (isSystem() && !rarely()) {
                 keepToSystem(kind);
             }
-            compare(kind);
+            twin.ask(NAMES[kind], args);
         }
     }
 
@@ -71,25 +57,20 @@ public final class RandomRunsTest {
         return weights == WEIGHTS[2];
     }
 
-    private void call(String name, int... arguments) {
-        System.arraycopy(arguments, 0, args, 0, arguments.length);
-        compare(Arrays.asList(NAMES).indexOf(name));
-    }
-
     /** Fills the registers with functions of many variables. */
     private void openGreat() {
         for (int v = 0; v < 8; v++) {
-            call("variable", v, v);
-            call("variable", 15 - v, random.nextInt(8));
+            twin.ask("variable", v, v);
+            twin.ask("variable", 15 - v, random.nextInt(8));
         }
         int mixes = random.nextInt(120);
         for (int i = 0; i < mixes; i++) {
             int r = random.nextInt(16);
             switch (random.nextInt(4)) {
-                case 0: call("apply", r, RICH[random.nextInt(RICH.length)], r, random.nextInt(16)); break;
-                case 1: call("compose", r, random.nextInt(16), random.nextInt(8), random.nextInt(16)); break;
-                case 2: call("turn", r, r); break;
-                default: call("choose", r, random.nextInt(16), random.nextInt(16), random.nextInt(16)); break;
+                case 0: twin.ask("apply", r, RICH[random.nextInt(RICH.length)], r, random.nextInt(16)); break;
+                case 1: twin.ask("compose", r, random.nextInt(16), random.nextInt(8), random.nextInt(16)); break;
+                case 2: twin.ask("turn", r, r); break;
+                default: twin.ask("choose", r, random.nextInt(16), random.nextInt(16), random.nextInt(16)); break;
             }
         }
     }
@@ -100,32 +81,32 @@ public final class RandomRunsTest {
      */
     private void openSystem() {
         for (int i = 0; i < 4; i++) {
-            call("variable", i, 2 * i);
+            twin.ask("variable", i, 2 * i);
         }
         for (int t = 12; t < 16; t++) {
-            call("constant", t, 1);
+            twin.ask("constant", t, 1);
             for (int i = 0; i < 4; i++) {
                 nextBit(4 + i, i);
-                call("variable", 8, 2 * i + 1);
-                call("apply", 8, 9, 8, 4 + i);
-                call("apply", t, 8, t, 8);
+                twin.ask("variable", 8, 2 * i + 1);
+                twin.ask("apply", 8, 9, 8, 4 + i);
+                twin.ask("apply", t, 8, t, 8);
             }
-            call("apply", 9, random.nextInt(16), 4, 5);
-            call("apply", 9, random.nextInt(16), 9, 6);
+            twin.ask("apply", 9, random.nextInt(16), 4, 5);
+            twin.ask("apply", 9, random.nextInt(16), 9, 6);
             if (random.nextInt(2) == 0) {
-                call("apply", t, random.nextInt(2) == 0 ? 8 : 14, t, 9);
+                twin.ask("apply", t, random.nextInt(2) == 0 ? 8 : 14, t, 9);
             }
         }
         for (int r = 4; r < 12; r++) {
-            call("apply", r, RICH[random.nextInt(RICH.length)], random.nextInt(4), 4 + random.nextInt(4));
+            twin.ask("apply", r, RICH[random.nextInt(RICH.length)], random.nextInt(4), 4 + random.nextInt(4));
         }
     }
 
     private void nextBit(int r, int i) {
-        call("apply", r, RICH[random.nextInt(RICH.length)], random.nextInt(4), random.nextInt(4));
-        call("choose", r, random.nextInt(4), r, random.nextInt(4));
+        twin.ask("apply", r, RICH[random.nextInt(RICH.length)], random.nextInt(4), random.nextInt(4));
+        twin.ask("choose", r, random.nextInt(4), r, random.nextInt(4));
         if (random.nextInt(2) == 0) {
-            call("apply", r, 6, r, i);
+            twin.ask("apply", r, 6, r, i);
         }
     }
 
@@ -180,7 +161,7 @@ public final class RandomRunsTest {
     private int setRegister() {
         for (int attempt = 0; attempt < 60 && random.nextInt(40) != 0; attempt++) {
             int r = random.nextInt(16);
-            if ((model.depends(r) & 0xAA) == 0 && (model.depends(r) != 0 || attempt > 30)) {
+            if ((twin.model.depends(r) & 0xAA) == 0 && (twin.model.depends(r) != 0 || attempt > 30)) {
                 return r;
             }
         }
@@ -212,40 +193,5 @@ public final class RandomRunsTest {
 
     private int mask() {
         return random.nextInt(3) == 0 ? upTo(255) : upTo(255) & upTo(255);
-    }
-
-    private void compare(int kind) {
-        calls++;
-        String want = answer(model, MODEL_METHODS.get(NAMES[kind]));
-        String got = answer(checker, CHECKER_METHODS.get(NAMES[kind]));
-        if (!want.equals(got)) {
-            Expect.fail(run + ", call " + calls + ": " + NAMES[kind] + Arrays.toString(args)
-                + " answered " + got + ", due is " + want);
-        }
-    }
-
-    private String answer(Object asked, Method method) {
-        Object[] given = new Object[method.getParameterCount()];
-        for (int i = 0; i < given.length; i++) {
-            boolean isNumber = method.getParameterTypes()[i] == int.class;
-            given[i] = isNumber ? (Object) args[i] : (Object) (args[i] == 1);
-        }
-        try {
-            return String.valueOf(method.invoke(asked, given));
-        } catch (InvocationTargetException e) {
-            return e.getCause().getClass().getName();
-        } catch (IllegalAccessException e) {
-            return e.toString();
-        }
-    }
-
-    private static Map<String, Method> methodsOf(Class<?> type) {
-        Map<String, Method> methods = new HashMap<>();
-        for (Method method : type.getDeclaredMethods()) {
-            if (!Modifier.isPrivate(method.getModifiers())) {
-                methods.put(method.getName(), method);
-            }
-        }
-        return methods;
     }
 }
