@@ -51,7 +51,7 @@ public final class ArgumentsTest {
         }
     }
 
-    /** The call, then every answer about what stands; the same behind further calls, which hang on all that stands. */
+    /** The call, then what all registers have, one table, and the same behind further calls, which hang on it. */
     private static void look(String what, Signature call, int[] row) {
         String run = what + ": " + call.name() + Arrays.toString(row);
         Twin twin = Twin.furnished(run);
@@ -113,8 +113,23 @@ public final class ArgumentsTest {
             call.eachRow(kind -> rightOrWrong(kind, known), row -> {
                 if (!call.refusal(row, Twin.FURNISHED_SETS).equals("none")) {
                     look("wrong arguments", call, row);
+                    if (known == 1) {
+                        everyAnswerAsBefore(call, row);
+                    }
                 }
             });
+        }
+    }
+
+    /** What look leaves out: all tables and pairs, a register at a time, as they are too many for one object. */
+    private static void everyAnswerAsBefore(Signature call, int[] row) {
+        for (int r = 0; r < 16; r++) {
+            Twin twin = Twin.furnished("as before: " + call.name() + Arrays.toString(row));
+            twin.ask(call.name(), row);
+            twin.askTable(r);
+            for (int other = 0; other < 16; other++) {
+                twin.ask("same", r, other);
+            }
         }
     }
 
