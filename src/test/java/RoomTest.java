@@ -3,28 +3,39 @@ import java.lang.management.ManagementFactory;
 
 /** All calls of a run live in one room: the constructor makes the rows, and no call makes anything more. */
 public final class RoomTest {
-    private static final long MOST_BYTES = 64 * 1024;
+    private static final ThreadMXBean BEAN = (ThreadMXBean) ManagementFactory.getThreadMXBean();
+    private static final long MOST_OF_AN_OBJECT = 48 * 1024;
+    // Less than the smallest object for each call, and not 0, as the machine may make something of its own.
+    private static final long MOST_OF_CALLS = 4 * 1024;
 
     private RoomTest() {
     }
 
     public static void main(String[] arguments) {
-        ThreadMXBean bean = (ThreadMXBean) ManagementFactory.getThreadMXBean();
-        long thread = Thread.currentThread().getId();
-        play();
-        long before = bean.getThreadAllocatedBytes(thread);
-        int heap = play();
-        long made = bean.getThreadAllocatedBytes(thread) - before;
-        if (made > MOST_BYTES) {
-            Expect.fail("a run made " + made + " bytes of objects and arrays, at most " + MOST_BYTES + " are due");
-        }
+        play(new SymbolicChecker());
+        long begin = made();
+        SymbolicChecker x = new SymbolicChecker();
+        long behindConstructor = made();
+        int heap = play(x);
+        long behindCalls = made();
+        atMost("the constructor", behindConstructor - begin, MOST_OF_AN_OBJECT);
+        atMost("512 calls", behindCalls - behindConstructor, MOST_OF_CALLS);
         Expect.due("the run has great diagrams", heap >= 300, true);
         Expect.end("RoomTest");
     }
 
+    private static long made() {
+        return BEAN.getThreadAllocatedBytes(Thread.currentThread().getId());
+    }
+
+    private static void atMost(String what, long bytes, long most) {
+        if (bytes > most) {
+            Expect.fail(what + " made " + bytes + " bytes of objects and arrays, at most " + most + " are due");
+        }
+    }
+
     /** 512 calls, the dearest ones many times over great diagrams. */
-    private static int play() {
-        SymbolicChecker x = new SymbolicChecker();
+    private static int play(SymbolicChecker x) {
         int calls = 0;
         int greatest = 0;
         for (int r = 0; r < 16; r++, calls++) {
