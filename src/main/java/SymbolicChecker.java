@@ -308,6 +308,7 @@ public final class SymbolicChecker {
      * The diagrams of all registers in one store. A node is a number: 0 and 1 are always false and always
      * true, the others have a variable and two ways on. No function has two nodes, so numbers are compared.
      * Nodes never move; between two calls of the face the store has just the nodes of the registers.
+     * What calls itself is private, as the language rules ask; the outer class may use it all the same.
      *
      * <p>No call can fill the store: registers have at most 750 nodes together (16 times 1 + 2 + 4 + 8 + 16 at
      * levels 0 to 4, and at levels 5 to 7 all of the 240 + 12 + 2 that there are), and until the next collect
@@ -395,7 +396,7 @@ public final class SymbolicChecker {
             return join(NOT_FIRST, a, a, 0);
         }
 
-        int join(int op, int a, int b, int depth) {
+        private int join(int op, int a, int b, int depth) {
             if (a <= TRUE && b <= TRUE) {
                 return op >> (2 * a + b) & 1;
             }
@@ -409,7 +410,7 @@ public final class SymbolicChecker {
         }
 
         /** b where a is true, c elsewhere. */
-        int pick(int a, int b, int c, int depth) {
+        private int pick(int a, int b, int c, int depth) {
             if (a <= TRUE || b == c) {
                 return a == FALSE ? c : b;
             }
@@ -422,7 +423,7 @@ public final class SymbolicChecker {
             return node(v, off, on);
         }
 
-        int fix(int a, int v, boolean on, int depth) {
+        private int fix(int a, int v, boolean on, int depth) {
             if (levelOf[label[a]] > levelOf[v]) {
                 return a;
             }
@@ -436,7 +437,7 @@ public final class SymbolicChecker {
         }
 
         /** Whether for some values of the variables in the mask both are true. */
-        int overlap(int a, int b, int mask, int depth) {
+        private int overlap(int a, int b, int mask, int depth) {
             if (a == FALSE || b == FALSE) {
                 return FALSE;
             }
@@ -453,7 +454,7 @@ public final class SymbolicChecker {
         }
 
         /** Each variable in the place of its neighbour: 0 and 1, 2 and 3, 4 and 5, 6 and 7. */
-        int mirror(int a, int depth) {
+        private int mirror(int a, int depth) {
             if (a <= TRUE || depth >= VARIABLES) {
                 return a;
             }
@@ -471,7 +472,7 @@ public final class SymbolicChecker {
         }
 
         /** For how many of all assignments it is true. */
-        int weight(int a, int depth) {
+        private int weight(int a, int depth) {
             if (a <= TRUE || depth >= VARIABLES) {
                 return a == TRUE ? ASSIGNMENTS : 0;
             }
@@ -479,7 +480,7 @@ public final class SymbolicChecker {
         }
 
         /** The variables of its nodes, as bits: a reduced diagram has none on which it does not depend. */
-        int support(int a, int depth) {
+        private int support(int a, int depth) {
             if (a <= TRUE || depth >= VARIABLES) {
                 return 0;
             }
